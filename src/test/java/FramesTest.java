@@ -222,6 +222,9 @@ public final class FramesTest {
         CHECK.due("the first of all begins no spike", x.spike(0), 0);
         CHECK.due("one came of the spurt", x.ofSpurt(0, 3), 1);
         CHECK.due("greatest", x.ofSpurt(0, 7), 11);
+        CHECK.due("played", x.ofSpurt(0, 4), 1);
+        CHECK.due("one frame, no drift", x.drift(0), 0);
+        CHECK.due("one frame, no drift", x.drift(1), 1);
         x.arrive(12, 11, 0, 1030);
         CHECK.due("jump stays", x.spike(1), 10780);
         CHECK.due("the tape", x.manner(3), 4);

@@ -113,6 +113,11 @@ public final class TablesTest {
                 new int[] {0, 40}, new int[] {10, 45}, new int[] {20, 50}, new int[] {4, 42}), 1, 2);
         dueDrift("both sides rise", withDelays(
                 new int[] {0, 0}, new int[] {10, 10}, new int[] {20, 60}), 1, 1);
+        dueDrift("a bow of many corners, the third side", withDelays(
+                new int[] {4, 90}, new int[] {6, 60}, new int[] {10, 30}, new int[] {18, 14}, new int[] {26, 30},
+                new int[] {8, 50}, new int[] {14, 40}, new int[] {22, 25}), -2, 1);
+        dueDrift("corners that a later point takes away", withDelays(
+                new int[] {10, 60}, new int[] {12, 50}, new int[] {14, 48}, new int[] {16, 47}, new int[] {40, 0}), -25, 14);
         dueDrift("both sides fall", withDelays(
                 new int[] {0, 60}, new int[] {10, 10}, new int[] {20, 0}), -5, 1);
     }

@@ -12,6 +12,8 @@ public final class TimesTest {
         spikes();
         spikeAsAnArrivalSetsATime();
         along();
+        alongAWholeDrift();
+        shareOfMany();
         mean();
         CHECK.end();
     }
@@ -128,6 +130,8 @@ public final class TimesTest {
             Check.take(x, "share", d[0]);
             CHECK.due("share " + d[0], x.wish(7), 10000 + d[1]);
         }
+        Check.take(x, "share", 255);
+        CHECK.due("three of four are not more than 255 of 256", x.wish(7), 10010);
         Check.take(x, "share", 64);
         x.arrive(30, 30, 5, 1000);
         CHECK.due("this one is counted as a time is set", x.ofSpurt(1, 2), 10040);
@@ -205,6 +209,7 @@ public final class TimesTest {
         CHECK.due("that one counted", x.ofSpurt(1, 2), 10110);
         CHECK.due("cut up", x.wish(31), 10111);
         CHECK.due("whole", x.wish(33), 10111);
+        CHECK.due("far", x.wish(299), 10200);
         CHECK.due("cut up", x.wish(34), 10112);
         CHECK.due("cut up below", x.wish(29), 10110);
         CHECK.due("cut up below", x.wish(27), 10109);
@@ -221,6 +226,27 @@ public final class TimesTest {
         CHECK.due("cut up, falling", y.wish(12), 10097);
         CHECK.due("cut up, falling", y.wish(14), 10096);
         CHECK.due("cut up, falling, ahead", y.wish(9), 10098);
+    }
+
+    private static void shareOfMany() {
+        for (int k = 0; k <= 256; k++) {
+            SpurtClock x = new SpurtClock();
+            for (int n = 0; n < 32; n++) {
+                x.arrive(n, 0, 0, 21 * n);
+            }
+            Check.take(x, "share", k);
+            CHECK.due("share " + k + " of 0 .. 31", x.wish(0), 10000 + Math.max(0, 31 - k / 8));
+        }
+    }
+
+    private static void alongAWholeDrift() {
+        SpurtClock x = new SpurtClock();
+        Check.take(x, "drift", 0);
+        x.arrive(0, 0, 0, 10);
+        x.arrive(10, 0, 0, 230);
+        CHECK.due("drift 2/1", x.drift(0), 2);
+        CHECK.due("drift 2/1", x.drift(1), 1);
+        CHECK.due("two a frame", x.wish(25), 10060);
     }
 
     private static void mean() {
