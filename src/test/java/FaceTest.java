@@ -28,6 +28,7 @@ public final class FaceTest {
     public static void main(String[] args) throws IOException {
         members();
         inside();
+        asTheDocumentWritesIt(Path.of(args.length > 0 ? args[0] : ".", "..", "shared", "DOC.md"));
         source(Files.readString(Path.of(args.length > 0 ? args[0] : ".", "src/main/java/SpurtClock.java")));
         CHECK.end();
     }
@@ -69,6 +70,23 @@ public final class FaceTest {
             }
         }
         CHECK.holds("the constants are " + constants, constants.equals(CONSTANTS));
+    }
+
+    /** The document's own lines of the face are those that members() asks for. */
+    private static void asTheDocumentWritesIt(Path document) throws IOException {
+        if (!Files.isReadable(document)) {
+            System.out.println("the document is not at " + document + ": its face is not looked up");
+            return;
+        }
+        Matcher block = Pattern.compile("(?s)```java\n(public final class SpurtClock .*?)```").matcher(Files.readString(document));
+        CHECK.holds("the document has a face", block.find());
+        Set<String> written = new TreeSet<>();
+        Matcher lines = Pattern.compile("public (int|long) (\\w+)\\(([^)]*)\\);").matcher(block.group(1));
+        while (lines.find()) {
+            written.add(lines.group(1) + " " + lines.group(2) + "(" + lines.group(3).replaceAll("int \\w+", "int").replace(" ", "") + ")");
+        }
+        CHECK.holds("the document's face is " + written, written.equals(new TreeSet<>(FACE)));
+        CHECK.holds("its constructor", block.group(1).contains("public SpurtClock();"));
     }
 
     private static void inside() {
